@@ -128,22 +128,22 @@ public final class InductionProver {
     }
 
     public int defineRule() {
-        int equals = findEquation();
-        int answer = judgeRule(equals);
+        int equalSign = findEquation();
+        int answer = judgeRule(equalSign);
         if (answer == OK) {
             int slot = bufferRuleSlot();
-            copySpan(slot, BUFFER, 0, equals);
-            copySpan(slot + 1, BUFFER, equals + 1, length[BUFFER]);
+            copySpan(slot, BUFFER, 0, equalSign);
+            copySpan(slot + 1, BUFFER, equalSign + 1, length[BUFFER]);
         }
         length[BUFFER] = 0;
         return answer;
     }
 
     public int conjecture() {
-        int equals = findEquation();
-        int answer = judgeConjecture(equals);
+        int equalSign = findEquation();
+        int answer = judgeConjecture(equalSign);
         if (answer == OK) {
-            answer = enterFormula(equals);
+            answer = enterFormula(equalSign);
         }
         length[BUFFER] = 0;
         return answer;
@@ -451,14 +451,14 @@ public final class InductionProver {
 
     /** Answers where the buffer has its '=', or NONE if it is not a WELL-FORMED EQUATION. */
     private int findEquation() {
-        int equals = 0;
-        while (equals < length[BUFFER] && text[BUFFER * SLOT_SIZE + equals] != '=') {
-            equals++;
+        int equalSign = 0;
+        while (equalSign < length[BUFFER] && text[BUFFER * SLOT_SIZE + equalSign] != '=') {
+            equalSign++;
         }
         // A second '=', being no symbol, spoils the right side; a missing one leaves it empty.
-        int leftSort = termSort(BUFFER, 0, equals);
-        int rightSort = termSort(BUFFER, equals + 1, length[BUFFER]);
-        return leftSort >= 0 && leftSort == rightSort ? equals : NONE;
+        int leftSort = termSort(BUFFER, 0, equalSign);
+        int rightSort = termSort(BUFFER, equalSign + 1, length[BUFFER]);
+        return leftSort >= 0 && leftSort == rightSort ? equalSign : NONE;
     }
 
     /** Answers the sort of the one term that bytes start to stop - 1 of the text are, or NONE. */
@@ -483,11 +483,11 @@ public final class InductionProver {
         return waiting == 1 ? (int) waitingSorts : NONE;
     }
 
-    private int judgeRule(int equals) {
-        if (equals < 0) {
+    private int judgeRule(int equalSign) {
+        if (equalSign < 0) {
             return ERR_SYNTAX;
         }
-        if (!isRuleLeft(equals) || !isRuleRight(equals)) {
+        if (!isRuleLeft(equalSign) || !isRuleRight(equalSign)) {
             return ERR_FORM;
         }
         int slot = bufferRuleSlot();
@@ -495,14 +495,14 @@ public final class InductionProver {
     }
 
     /** The equation being well-formed, what stands behind f and the constructor need only be distinct variables. */
-    private boolean isRuleLeft(int equals) {
+    private boolean isRuleLeft(int equalSign) {
         char function = symbolAt(BUFFER, 0);
         char constructor = symbolAt(BUFFER, 1);
         if (!isFunction(function) || constructorKind(constructor) < 0) {
             return false;
         }
         int seen = 0;
-        for (int i = 2; i < equals; i++) {
+        for (int i = 2; i < equalSign; i++) {
             char symbol = symbolAt(BUFFER, i);
             int variable = variableNumber(symbol);
             if (variable < 0 || (seen >> variable & 1) == 1) {
@@ -513,15 +513,15 @@ public final class InductionProver {
         return true;
     }
 
-    private boolean isRuleRight(int equals) {
-        int known = variablesIn(BUFFER, 0, equals);
-        int used = variablesIn(BUFFER, equals + 1, length[BUFFER]);
+    private boolean isRuleRight(int equalSign) {
+        int known = variablesIn(BUFFER, 0, equalSign);
+        int used = variablesIn(BUFFER, equalSign + 1, length[BUFFER]);
         if ((used & ~known) != 0) {
             return false;
         }
         char function = symbolAt(BUFFER, 0);
         char smaller = recursionVariable();
-        for (int i = equals + 1; i < length[BUFFER]; i++) {
+        for (int i = equalSign + 1; i < length[BUFFER]; i++) {
             char symbol = symbolAt(BUFFER, i);
             char next = symbolAt(BUFFER, i + 1);
             boolean recursive = symbol == function && smaller != 0 && next == smaller;
@@ -563,8 +563,8 @@ public final class InductionProver {
         return (length[first] > 0 ? 1 : 0) + (length[first + 2] > 0 ? 1 : 0);
     }
 
-    private int judgeConjecture(int equals) {
-        if (equals < 0) {
+    private int judgeConjecture(int equalSign) {
+        if (equalSign < 0) {
             return ERR_SYNTAX;
         }
         for (int i = 0; i < length[BUFFER]; i++) {
@@ -576,10 +576,10 @@ public final class InductionProver {
         return formulas >= MAX_FORMULAS ? ERR_FULL : OK;
     }
 
-    private int enterFormula(int equals) {
+    private int enterFormula(int equalSign) {
         int slot = FORMULA_SLOTS + 2 * formulas;
-        copySpan(slot, BUFFER, 0, equals);
-        copySpan(slot + 1, BUFFER, equals + 1, length[BUFFER]);
+        copySpan(slot, BUFFER, 0, equalSign);
+        copySpan(slot + 1, BUFFER, equalSign + 1, length[BUFFER]);
         copyText(slot, GOAL_SLOTS);
         copyText(slot + 1, GOAL_SLOTS + 1);
         length[GOAL_SLOTS + 2] = 0;

@@ -9,6 +9,7 @@ public final class Promise06InductTest {
         noFresh(checks);
         limit(checks);
         noCloseCheck(checks);
+        baseAfterAStep(checks);
         checks.end();
     }
 
@@ -136,6 +137,8 @@ public final class Promise06InductTest {
         String before = Checks.state(x);
         checks.due("49 symbols on the left", x.induct(0), InductionProver.ERR_LIMIT);
         checks.due("state", Checks.state(x), before);
+        Checks.conjecture(x, "Z=FFaaS" + "S".repeat(39) + "a");
+        checks.due("48 symbols on the right", x.induct(0), 2);
         Checks.conjecture(x, "Z=FFaaS" + "S".repeat(40) + "a");
         checks.due("49 symbols on the right", x.induct(0), InductionProver.ERR_LIMIT);
         Checks.conjecture(x, "HpHpC" + "S".repeat(39) + "ZN=p");
@@ -152,5 +155,21 @@ public final class Promise06InductTest {
         checks.due("induct(0)", x.induct(0), 2);
         checks.due("top", Checks.goal(x, 0), "Z=Z");
         checks.due("status(0)", x.status(0), InductionProver.ST_ACTIVE);
+    }
+
+    /** The base goal comes to lie where a goal with a hypothesis has lain. */
+    private static void baseAfterAStep(Checks checks) {
+        InductionProver x = Checks.theory();
+        Checks.conjecture(x, "Fab=Fab");
+        x.induct(0);
+        x.induct(1);
+        x.simp();
+        checks.due("second goal", Checks.goal(x, 0), "FZSb=FZSb[FZb=FZb]");
+        x.simp();
+        checks.due("first goal", Checks.goal(x, 0), "FSab=FSab[Fab=Fab]");
+        checks.due("induct(0)", x.induct(0), 2);
+        checks.due("hypothesis left", Checks.text(x, -1, 2), "");
+        checks.due("hypothesis right", Checks.text(x, -1, 3), "");
+        checks.due("useHyp(0)", x.useHyp(0), InductionProver.ERR_STATE);
     }
 }

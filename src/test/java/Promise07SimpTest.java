@@ -19,6 +19,7 @@ public final class Promise07SimpTest {
         closing(checks);
         steps(checks);
         lengths(checks);
+        rightmostFirst(checks);
         refusedChangesNothing(checks);
         checks.end();
     }
@@ -129,6 +130,24 @@ public final class Promise07SimpTest {
         checks.due("state", Checks.state(x), before);
         Checks.conjecture(x, "p=FSZ" + "S".repeat(22) + "a");
         checks.due("49 symbols on the right", x.simp(), InductionProver.ERR_LIMIT);
+    }
+
+    private static void rightmostFirst(Checks checks) {
+        InductionProver x = slow();
+        // F on SZ drops its second argument, but only after that has been made normal.
+        Checks.conjecture(x, "FSZGSSSSSSZ=a");
+        checks.due("190 replacements in what is dropped", x.simp(), InductionProver.ERR_LIMIT);
+        Checks.conjecture(x, "FSZGSSSSSZ=a");
+        checks.due("94 replacements in what is dropped", x.simp(), 1);
+        checks.due("left", Checks.text(x, -1, 0), "Z");
+        InductionProver y = copier();
+        y.declare(2, 0, 0);
+        Checks.rule(y, "GZa=a");
+        Checks.rule(y, "GSab=Z");
+        // Copied before it is made normal, G's subterm would make 57 symbols.
+        Checks.conjecture(y, "FSaGSS" + "S".repeat(23) + "Za=p");
+        checks.due("what is copied is made normal first", y.simp(), 1);
+        checks.due("left", Checks.text(y, -1, 0), "CZCZN");
     }
 
     private static void refusedChangesNothing(Checks checks) {

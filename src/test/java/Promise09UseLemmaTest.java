@@ -40,6 +40,9 @@ public final class Promise09UseLemmaTest {
         Checks.conjecture(x, "Fab=Fba");
         Checks.conjecture(x, "Fbc=Sc");
         Checks.feed(x, "ab");
+        InductionProver first = Checks.theory();
+        Checks.conjecture(first, "FaZ=a");
+        checks.due("the active formula itself", first.useLemma(0, 0), InductionProver.ERR_ARG);
         String before = Checks.state(x);
         int[] wrong = {Integer.MIN_VALUE, -1, 3, 4, 5, 7, 8, 9, Integer.MAX_VALUE};
         for (int k : wrong) {

@@ -58,7 +58,26 @@ public final class Promise10GeneralizeTest {
         Checks.generalize(x, "Sa");
         checks.due("a and b stand in the hypothesis", Checks.goal(x, 0), "Fec=Sd[FaSb=SFab]");
         checks.due("goalCount()", x.goalCount(), 1);
+        eitherSideOfTheHypothesis(checks);
         goalsBelowStay(checks);
+    }
+
+    /** b stands in one side of the hypothesis alone, and nowhere in the goal. */
+    private static void eitherSideOfTheHypothesis(Checks checks) {
+        InductionProver x = Checks.theory();
+        Checks.conjecture(x, "Gab=GaZ");
+        x.induct(0);
+        checks.due("base closes", x.simp(), 1);
+        Checks.generalize(x, "GSab");
+        checks.due("a is used", Checks.goal(x, 0), "c=GSaZ[Gab=GaZ]");
+        Checks.generalize(x, "Sa");
+        checks.due("so is b, in the left side", Checks.goal(x, 0), "c=GdZ[Gab=GaZ]");
+        Checks.conjecture(x, "GaZ=Gab");
+        x.induct(0);
+        checks.due("base closes", x.simp(), 1);
+        Checks.generalize(x, "GSab");
+        Checks.generalize(x, "Sa");
+        checks.due("so is b, in the right side", Checks.goal(x, 0), "GdZ=c[GaZ=Gab]");
     }
 
     private static void goalsBelowStay(Checks checks) {

@@ -56,6 +56,10 @@ public final class Promise15TextCharTest {
 
     private static void goals(Checks checks) {
         InductionProver x = Checks.theory();
+        x.declare(1, 0, 0);
+        x.declare(1, 0, 0);
+        Checks.rule(x, "MZ=Z");
+        Checks.rule(x, "MSa=a");
         Checks.conjecture(x, "FaFbc=FFabc");
         x.induct(1);
         x.induct(2);

@@ -2,20 +2,40 @@
 final class Checks {
     private int wrong = 0;
     private int made = 0;
+    private String sentence = "";
+    private int sentences = 0;
+    private int madeBefore = 0;
+
+    /** Begins the test of one sentence of the document; a wrong answer is told together with it. */
+    void sentence(String words) {
+        endSentence();
+        sentence = words;
+        sentences++;
+        madeBefore = made;
+    }
+
+    private void endSentence() {
+        if (sentences > 0 && made == madeBefore) {
+            tellWrong("nothing was checked");
+        }
+    }
+
+    private void tellWrong(String what) {
+        wrong++;
+        System.out.println(sentence.isEmpty() ? what : what + "\n    (" + sentence + ")");
+    }
 
     void due(String call, long got, long want) {
         made++;
         if (got != want) {
-            wrong++;
-            System.out.println(call + " answered " + got + ", due is " + want);
+            tellWrong(call + " answered " + got + ", due is " + want);
         }
     }
 
     void due(String call, String got, String want) {
         made++;
         if (!got.equals(want)) {
-            wrong++;
-            System.out.println(call + " answered \"" + got + "\", due is \"" + want + "\"");
+            tellWrong(call + " answered \"" + got + "\", due is \"" + want + "\"");
         }
     }
 
@@ -24,11 +44,13 @@ final class Checks {
     }
 
     void end() {
+        endSentence();
         if (made == 0) {
             System.out.println("nothing was checked");
             System.exit(1);
         }
-        System.out.println(wrong == 0 ? made + " answers are as due" : wrong + " of " + made + " answers are not as due");
+        String tests = sentences > 0 ? ", in " + sentences + " tests of a sentence" : "";
+        System.out.println((wrong == 0 ? made + " answers are as due" : wrong + " of " + made + " answers are not as due") + tests);
         if (wrong != 0) {
             System.exit(1);
         }

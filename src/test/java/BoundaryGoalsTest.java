@@ -6,6 +6,7 @@ public final class BoundaryGoalsTest extends Boundary {
     public static void main(String[] args) {
         oneActive();
         eightGoalsAreTheMost();
+        workOnTheEighth();
         hypothesisOrNone();
         topGoalAlone();
         whoChecks();
@@ -51,6 +52,45 @@ public final class BoundaryGoalsTest extends Boundary {
         due("simp() makes room", y.simp(), 7);
         due("induct(0) takes it", y.induct(0), 8);
         dueGoal(y, 8, "=");
+    }
+
+    /** The eighth goal is worked on as any other: it has no hypothesis, and the seven below stay as they are. */
+    private static void workOnTheEighth() {
+        sentence("at most one ACTIVE formula, with a stack of at most MAX_GOALS goals.");
+        InductionProver x = prove(Checks.theory(), "FZa=a");
+        conjectured(x, "FaFbFcFdFeFfFgh=FZh");
+        for (int var = 0; var < 7; var++) {
+            need("induct(" + var + ")", x.induct(var), var + 2);
+        }
+        String below = sevenBelow(x);
+        unchanged(x, "evaluate(0)", () -> x.evaluate(0), EQUAL);
+        due("generalize()", Checks.generalize(x, "FZFZFZh"), 8);
+        dueEighth(x, "FZFZFZFZa=FZh", below);
+        due("useLemma(0, 0)", x.useLemma(0, 0), 8);
+        dueEighth(x, "a=h", below);
+        unchanged(x, "useHyp(0)", () -> x.useHyp(0), STATE);
+        due("simp()", x.simp(), 8);
+        dueEighth(x, "a=h", below);
+        InductionProver y = conjectured(Checks.theory(), "FaFbFcFdFeFfFgSh=FZh");
+        for (int var = 0; var < 7; var++) {
+            need("induct(" + var + ")", y.induct(var), var + 2);
+        }
+        due("simp()", y.simp(), 8);
+        dueGoal(y, 0, "Sh=h");
+        unchanged(y, "useHyp(0)", () -> y.useHyp(0), STATE);
+    }
+
+    private static String sevenBelow(InductionProver x) {
+        StringBuilder all = new StringBuilder();
+        for (int d = 1; d < 8; d++) {
+            all.append(Checks.goal(x, d)).append(' ');
+        }
+        return all.toString();
+    }
+
+    private static void dueEighth(InductionProver x, String top, String below) {
+        dueGoal(x, 0, top);
+        due("the seven goals below", sevenBelow(x), below);
     }
 
     private static void hypothesisOrNone() {

@@ -127,6 +127,28 @@ public final class BoundaryTextTest extends Boundary {
             x = new InductionProver();
             due("conjecture() beginning with byte " + b, Checks.conjecture(x, c + "=Z"), nat ? 0 : SYNTAX);
         }
+        noByteStandsForArguments();
+    }
+
+    /** F, G and H take one, two and three numbers, I, J and K as many lists; a byte stands for the arguments still due. */
+    private static void noByteStandsForArguments() {
+        InductionProver x = new InductionProver();
+        for (int f = 0; f < 6; f++) {
+            x.declare(f % 3 + 1, f < 3 ? 0 : 7, 0);
+        }
+        for (int b = 1; b < 256; b++) {
+            char c = (char) b;
+            boolean nat = c == 'Z' || c >= 'a' && c <= 'h';
+            boolean list = c == 'N' || c >= 'p' && c <= 'w';
+            for (int f = 0; f < 6; f++) {
+                for (int given = 0; given <= f % 3 + 1; given++) {
+                    String term = (char) ('F' + f) + (f < 3 ? "a" : "p").repeat(given) + c;
+                    boolean fits = given == f % 3 && (f < 3 ? nat : list);
+                    refusedConjecture(x, term + "=Z", fits ? FORM : SYNTAX);
+                    refusedConjecture(x, "Z=" + term, fits ? FORM : SYNTAX);
+                }
+            }
+        }
     }
 
     private static void oneTermASide() {
